@@ -1,0 +1,42 @@
+/** Counts and prints the answers that are not as due. */
+final class Check {
+    /** A call that may throw, with its answer as text. */
+    interface Call {
+        Object answer();
+    }
+
+    private int wrong;
+    private int asked;
+
+    /** What a call answers, or throws. */
+    static String told(Call call) {
+        try {
+            return String.valueOf(call.answer());
+        } catch (RuntimeException e) {
+            return "throws." + e.getClass().getSimpleName();
+        }
+    }
+
+    void due(String name, Object want, Call call) {
+        asked++;
+        String got = told(call);
+        if (!got.equals(String.valueOf(want))) {
+            wrong++;
+            System.out.println(name + " answered " + got + ", due is " + want);
+        }
+    }
+
+    /** The call throws just this exception, and the object answers afterwards as it did before. */
+    void refused(String name, String exception, GuestChairs chairs, Call call) {
+        long before = chairs.digest();
+        due(name, "throws." + exception, call);
+        due("digest() after " + name, before, chairs::digest);
+    }
+
+    void end() {
+        System.out.println(asked + " answers asked for, " + wrong + " not as due");
+        if (wrong != 0 || asked == 0) {
+            System.exit(1);
+        }
+    }
+}
