@@ -121,7 +121,8 @@ public final class GuestChairs {
             case 2:
                 return oneIf(isTorn(closed, guest));
             default:
-                return Integer.bitCount(guestsBoundTo(comes) | guestsBoundTo(against(comes)));
+                // With each rule its turning is in force: the other wish binds the same guests.
+                return Integer.bitCount(guestsBoundTo(comes));
         }
     }
 

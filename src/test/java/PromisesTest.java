@@ -27,6 +27,16 @@ public final class PromisesTest {
         return book(2, 0, 1, 1, 0);
     }
 
+    /** Three guests: by rules one behind the other 0 cannot come. */
+    private static GuestChairs chainedBook() {
+        return book(3, 0, 2, 2, 4, 4, 1);
+    }
+
+    /** Three guests: by rules one behind the other 0 can neither come nor stay away. */
+    private static GuestChairs chainedTornBook() {
+        return book(3, 0, 2, 2, 1, 1, 4, 4, 0);
+    }
+
     private static GuestChairs fullOfRules() {
         GuestChairs chairs = book(10);
         for (int i = 0; i < 30; i++) {
@@ -200,6 +210,11 @@ public final class PromisesTest {
         CHECK.due("9: guest(0, 0), torn", 0, () -> torn.guest(0, 0));
         CHECK.due("9: guest(1, 1), vain without a seating", 0, () -> torn.guest(1, 1));
         CHECK.due("9: guest(1, 2), vain is not torn", 0, () -> torn.guest(1, 2));
+        CHECK.due("9: guest(0, 1) by rules one behind the other", 1, () -> chainedBook().guest(0, 1));
+        CHECK.due("9: guest(0, 0) by rules one behind the other", 1, () -> book(2, 1, 2, 2, 0).guest(0, 0));
+        CHECK.due("9: guest(0, 2) by rules one behind the other", 1, () -> chainedTornBook().guest(0, 2));
+        CHECK.due("9: guest(2, 3), bound by rules one behind the other", 3, () -> book(3, 0, 2, 2, 5, 5, 0).guest(2, 3));
+        CHECK.due("9: guest(0, 3), bound one way alone", 1, () -> party().guest(0, 3));
         CHECK.due("9: guest(9, 3) of ten in a ring", 10, () -> fullOfRules().guest(9, 3));
         CHECK.refused("9: guest(4, 0)", INDEX, chairs, () -> chairs.guest(4, 0));
         CHECK.refused("9: guest(-1, 0)", INDEX, chairs, () -> chairs.guest(-1, 0));
@@ -215,6 +230,7 @@ public final class PromisesTest {
         CHECK.due("10: fits() of a party", true, () -> party().fits());
         CHECK.due("10: fits() with a vain wish", true, () -> book(1, 0, 1).fits());
         CHECK.due("10: fits() with a torn guest", false, () -> tornBook().fits());
+        CHECK.due("10: fits() torn by rules one behind the other", false, () -> chainedTornBook().fits());
         CHECK.due("10: fits() with the last of ten torn", false, () -> book(10, 18, 19, 19, 18).fits());
         GuestChairs chairs = tornBook();
         chairs.turn(0);
@@ -227,6 +243,9 @@ public final class PromisesTest {
         CHECK.due("11: seat() of a party", 0b1011, () -> party().seat());
         CHECK.due("11: seat() where the first one keeps all others away", 1, () -> book(3, 0, 3, 0, 5).seat());
         CHECK.due("11: seat() where the first one cannot", 0b110, () -> book(3, 0, 1).seat());
+        CHECK.due("11: seat() where one in the middle cannot", 0b101, () -> book(3, 2, 3).seat());
+        CHECK.due("11: seat() where the first one cannot and keeps a later one away", 0b010,
+            () -> book(3, 0, 1, 1, 5).seat());
         CHECK.due("11: seat() where a later one keeps the first one away", 0b01, () -> book(2, 2, 1).seat());
         CHECK.due("11: seat() where a later one has to come and keeps it away", 0b10, () -> book(2, 2, 1, 3, 2).seat());
         CHECK.due("11: seat() with a torn guest", -1, () -> tornBook().seat());
@@ -237,6 +256,11 @@ public final class PromisesTest {
         CHECK.due("12: seatings() without rules", 1024, () -> book(10).seatings());
         CHECK.due("12: seatings() of a party", 5, () -> party().seatings());
         CHECK.due("12: seatings() with a vain wish", 1, () -> book(1, 0, 1).seatings());
+        CHECK.due("12: seatings() where one in the middle cannot", 4, () -> book(3, 2, 3).seatings());
+        CHECK.due("12: seatings() where one in the middle has to", 4, () -> book(3, 3, 2).seatings());
+        CHECK.due("12: seatings() where one cannot by a chain", 3, () -> chainedBook().seatings());
+        CHECK.due("12: seatings() where one has to by a chain", 3, () -> book(3, 1, 2, 2, 4, 4, 0).seatings());
+        CHECK.due("12: seatings() where one cannot, and so none", 1, () -> book(3, 0, 1, 1, 3, 3, 5).seatings());
         CHECK.due("12: seatings() of a ring", 2, () -> fullOfRules().seatings());
         CHECK.due("12: seatings() with a torn guest", 0, () -> tornBook().seatings());
         GuestChairs chairs = party();
@@ -248,11 +272,15 @@ public final class PromisesTest {
         CHECK.due("13: fewest() of an empty book", 0, () -> book(0).fewest());
         CHECK.due("13: fewest() without rules", 0, () -> book(10).fewest());
         CHECK.due("13: fewest() of a party", 1, () -> party().fewest());
+        CHECK.due("13: fewest() where one in the middle has to come", 1, () -> book(3, 3, 2).fewest());
+        CHECK.due("13: fewest() where one comes if another one stays", 1, () -> book(2, 1, 2).fewest());
         CHECK.due("13: fewest() where all have to come", 10, () -> ringWhere(1, 0).fewest());
         CHECK.due("13: fewest() with a torn guest", -1, () -> tornBook().fewest());
         CHECK.due("14: most() of an empty book", 0, () -> book(0).most());
         CHECK.due("14: most() without rules", 10, () -> book(10).most());
         CHECK.due("14: most() of a party", 3, () -> party().most());
+        CHECK.due("14: most() where the first one keeps all others away", 2, () -> book(3, 0, 3, 0, 5).most());
+        CHECK.due("14: most() where one in the middle cannot", 2, () -> book(3, 2, 3).most());
         CHECK.due("14: most() where none can", 0, () -> ringWhere(0, 1).most());
         CHECK.due("14: most() with a torn guest", -1, () -> tornBook().most());
     }
@@ -300,6 +328,8 @@ public final class PromisesTest {
         CHECK.due("16: blame() where the first of them is taken back", 2, chairs::blame);
         chairs.turn(2);
         CHECK.due("16: blame() where there is a seating then", -1, chairs::blame);
+        CHECK.due("16: blame() of the first of two", 0, () -> tornBook().blame());
+        CHECK.due("16: blame() where each of a chain tears", 0, () -> chainedTornBook().blame());
         CHECK.due("16: blame() by none", -1, () -> book(2, 0, 1, 1, 0, 2, 3, 3, 2).blame());
         GuestChairs full = book(10);
         for (int i = 0; i < 29; i++) {
@@ -356,6 +386,7 @@ public final class PromisesTest {
         CHECK.due("19: mean() of an empty book", 0.0, () -> book(0).mean());
         CHECK.due("19: mean() without rules", 5.0, () -> book(10).mean());
         CHECK.due("19: mean() of a party", 1.8, () -> party().mean());
+        CHECK.due("19: mean() where one in the middle cannot", 1.0, () -> book(3, 2, 3).mean());
         CHECK.due("19: mean() of three seatings", 2.0 / 3.0, () -> book(2, 0, 3).mean());
         CHECK.due("19: mean() with a torn guest", 0.0, () -> tornBook().mean());
     }
@@ -375,6 +406,9 @@ public final class PromisesTest {
         chairs.turn(1);
         CHECK.due("20: digest() of two guests",
             sum(2, 2, 1, 0, 0, 2, 0, 2, 1, 3, 0, 0, 5, 2, 4, 10, 0, 0, 0, 1, 0, 0, 0, 1, 3, 3), chairs::digest);
+        CHECK.due("20: digest() of a chain",
+            sum(3, 2, 2, 0, 0, 6, 0, 2, 1, 2, 4, 1, 21, 2, 20, 10, 16, 42,
+                0, 0, 0, 1, 0, 0, 0, 1, 0, 0, 0, 1, 7, 4), () -> book(3, 0, 2, 2, 4).digest());
         CHECK.due("20: digest() with a torn guest",
             sum(2, 2, 2, 1, 2, 2, 0, 1, 1, 1, 0, 1, 3, 3, 4, 8, 0, 0, 1, 1, 0, 0, 0, 1, -1, 0), () -> tornBook().digest());
     }
