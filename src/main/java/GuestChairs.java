@@ -129,12 +129,12 @@ public final class GuestChairs {
     // ---- seatings
 
     public boolean fits() {
-        return countTorn(closed) == 0;
+        return seatingCount > 0;
     }
 
     public int seat() {
         // The list of seatings begins with the one in which each guest in turn comes if possible.
-        return seatingCount == 0 ? NONE : guestsComing(at(seated, 0));
+        return fits() ? guestsComing(at(seated, 0)) : NONE;
     }
 
     public int seatings() {
@@ -310,7 +310,8 @@ public final class GuestChairs {
     }
 
     private void listSeatings() {
-        seatingCount = oneIf(fits());
+        // There is a seating just if no guest is torn; it is told of nobody at first.
+        seatingCount = oneIf(countTorn(closed) == 0);
         put(seated, 0, 0);
         for (int guest = 0; guest < guestCount; guest++) {
             settle(2 * guest);

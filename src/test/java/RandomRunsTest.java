@@ -3,7 +3,7 @@ import java.util.Random;
 /** Long runs of calls, each answer beside that of the plain book. The seeds are fixed. */
 public final class RandomRunsTest {
     private static final int RUNS = 150;
-    private static final int CALLS = 500;
+    private static final int CALLS = 512;
     private static final int[] WILD = {-1, Integer.MIN_VALUE, Integer.MAX_VALUE, 10, 20, 30, 31, 32, 64, 1024};
 
     private final Check check;
