@@ -204,8 +204,10 @@ public final class EdgesTest {
     private static void lastRule() {
         CHECK.due("3: a rule of the first and the last wish", 0, () -> Books.of(10).rule(0, 19));
         CHECK.due("3: a rule of the last and the first wish", 0, () -> Books.of(10).rule(19, 0));
-        CHECK.due("3: a rule beyond the last wish", INDEX, () -> Books.of(10).rule(20, 19));
-        CHECK.due("3: a rule before the first wish", INDEX, () -> Books.of(10).rule(0, -1));
+        CHECK.due("3: a rule beyond the last wish", INDEX, () -> Books.of(10).rule(20, 0));
+        CHECK.due("3: a rule beyond the last wish as the second one", INDEX, () -> Books.of(10).rule(0, 20));
+        CHECK.due("3: a rule before the first wish", INDEX, () -> Books.of(10).rule(-1, 0));
+        CHECK.due("3: a rule before the first wish as the second one", INDEX, () -> Books.of(10).rule(0, -1));
         CHECK.due("3: a rule of one guest", 0, () -> Books.of(1).rule(0, 1));
         CHECK.due("3: a rule of one guest and none", INDEX, () -> Books.of(1).rule(1, 2));
         CHECK.due("3: both the same", ARGUMENT, () -> Books.of(1).rule(1, 1));
@@ -269,7 +271,7 @@ public final class EdgesTest {
         CHECK.due("6: no wish of a guest as the second one", INDEX, () -> Books.of(10).follows(0, 20));
         CHECK.due("6: no wish before the first one", INDEX, () -> Books.of(10).follows(-1, 0));
         CHECK.due("6: none before the first one as the second one", INDEX, () -> Books.of(10).follows(0, -1));
-        CHECK.due("6: no wish that is neither", INDEX, () -> Books.of(10).follows(20, 20));
+        CHECK.due("6: twice what is no wish", INDEX, () -> Books.of(10).follows(20, 20));
         dueForEach("6: the longest way", 20, true, wish -> longestWay().follows(0, wish));
         dueForEach("6: in a full and torn book each from each", 400, true,
             pair -> Books.fullTorn().follows(pair / 20, pair % 20));
@@ -307,8 +309,11 @@ public final class EdgesTest {
         CHECK.due("8: not by a rule taken back", -1, () -> fullTakenBack().steps(0, 2));
         CHECK.due("8: the shorter way round of a ring", 5, () -> Books.full().steps(0, 10));
         CHECK.due("8: the other way round of a ring", 4, () -> Books.full().steps(0, 12));
-        CHECK.due("8: no wish of a guest", INDEX, () -> Books.of(10).steps(20, 20));
-        CHECK.due("8: no wish of a guest, before the first one", INDEX, () -> Books.of(10).steps(-1, -1));
+        CHECK.due("8: no wish of a guest", INDEX, () -> Books.of(10).steps(20, 0));
+        CHECK.due("8: no wish of a guest as the second one", INDEX, () -> Books.of(10).steps(0, 20));
+        CHECK.due("8: no wish before the first one", INDEX, () -> Books.of(10).steps(-1, 0));
+        CHECK.due("8: none before the first one as the second one", INDEX, () -> Books.of(10).steps(0, -1));
+        CHECK.due("8: twice what is no wish", INDEX, () -> Books.of(10).steps(20, 20));
     }
 
     /** Promise 9: "0 1 if this one has to come: comes in each seating, 1 1 if this one cannot, 2 1 if torn". */
@@ -369,6 +374,7 @@ public final class EdgesTest {
         CHECK.due("10: one seating alone, of all", true, () -> Books.ringWhere(1, 0).fits());
         CHECK.due("10: none in a full book", false, () -> Books.fullTorn().fits());
         CHECK.due("10: some in a full book", true, () -> Books.full().fits());
+        CHECK.due("10: none, torn by rules one behind the other", false, () -> Books.chainedTorn().fits());
     }
 
     /** Promise 11: "-1 if there is no seating", and 0 if it is of nobody. */
@@ -526,13 +532,18 @@ public final class EdgesTest {
         CHECK.due("17: a quarter of all", 256, () -> Books.of(10).tightens(0, 19));
         CHECK.due("17: a quarter of all, the last and the first wish", 256, () -> Books.of(10).tightens(19, 0));
         CHECK.due("17: the only seating", 1, () -> Books.ringWhere(1, 0).tightens(0, 1));
+        CHECK.due("17: half, where the first wish holds in each", 256, () -> Books.of(10, 0, 1).tightens(1, 19));
+        CHECK.due("17: half, where the second wish holds in none", 256, () -> Books.of(10, 0, 1).tightens(18, 0));
         CHECK.due("17: not the only seating", 0, () -> Books.ringWhere(1, 0).tightens(1, 0));
         CHECK.due("17: with 30 rules in the book", 1, () -> Books.full().tightens(0, 19));
         CHECK.due("17: with 30 rules in the book, what follows already", 0, () -> Books.full().tightens(0, 18));
         CHECK.due("17: with 30 rules in the book, twice the same", 0, () -> Books.full().tightens(19, 19));
         dueForEach("17: without a seating", 400, 0, pair -> Books.fullTorn().tightens(pair / 20, pair % 20));
-        CHECK.due("17: no wish of a guest", INDEX, () -> Books.of(10).tightens(20, 20));
-        CHECK.due("17: no wish of a guest, before the first one", INDEX, () -> Books.of(10).tightens(-1, -1));
+        CHECK.due("17: no wish of a guest", INDEX, () -> Books.of(10).tightens(20, 0));
+        CHECK.due("17: no wish of a guest as the second one", INDEX, () -> Books.of(10).tightens(0, 20));
+        CHECK.due("17: no wish before the first one", INDEX, () -> Books.of(10).tightens(-1, 0));
+        CHECK.due("17: none before the first one as the second one", INDEX, () -> Books.of(10).tightens(0, -1));
+        CHECK.due("17: twice what is no wish", INDEX, () -> Books.of(10).tightens(20, 20));
         CHECK.due("17: nothing is changed", Portrait.of(Books::full), () -> Portrait.of(EdgesTest::afterTightens));
         CHECK.due("17: nothing is changed in a book with room", Portrait.of(Books::party),
             () -> Portrait.of(EdgesTest::partyAfterTightens));
