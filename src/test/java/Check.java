@@ -1,9 +1,11 @@
-/** Counts and prints the answers that are not as due. */
+/** Counts the answers that are not as due, and prints the first of them. */
 final class Check {
     /** A call that may throw, with its answer as text. */
     interface Call {
         Object answer();
     }
+
+    private static final int MOST_PRINTED = 200;
 
     private int wrong;
     private int asked;
@@ -21,7 +23,22 @@ final class Check {
         asked++;
         String got = told(call);
         if (!got.equals(String.valueOf(want))) {
-            wrong++;
+            tell(name, got, want);
+        }
+    }
+
+    /** Two answers as numbers: the same as due, and without a text for each of very many. */
+    void same(String where, String call, long want, long got) {
+        asked++;
+        if (got != want) {
+            tell(where + call, got, want);
+        }
+    }
+
+    /** The first ones are printed: one fault can spoil millions of answers. */
+    private void tell(String name, Object got, Object want) {
+        wrong++;
+        if (wrong <= MOST_PRINTED) {
             System.out.println(name + " answered " + got + ", due is " + want);
         }
     }
